@@ -1131,6 +1131,14 @@ public final class LoanNames {
             return false;
         }
 
+        int choicesBefore(int place) {
+            int choices = 0;
+            for (int i = 0; i < place && i < many; i++) {
+                choices += deals[i].choices;
+            }
+            return choices;
+        }
+
         int allLeaves() {
             int leaves = 0;
             for (int i = 0; i < many; i++) {
@@ -1140,11 +1148,7 @@ public final class LoanNames {
         }
 
         int allChoices() {
-            int choices = 0;
-            for (int i = 0; i < many; i++) {
-                choices += deals[i].choices;
-            }
-            return choices;
+            return choicesBefore(many);
         }
 
         /** The bits of the EVENTS named and of the CHOICES. */
@@ -1216,6 +1220,9 @@ public final class LoanNames {
         private final long[] much = new long[MOST];
         private int entries;
         private int bitsThatTell;
+        // The FAMILIES that the entries tell of: the others stay as they are.
+        private final int[] present = new int[FAMILIES];
+        private int presentMany;
         private final int[] head = new int[MOST_TOGETHER];
         private final long[] totals = new long[FAMILIES * THINGS];
         private final int[] lendsTo = new int[FAMILIES];
@@ -1229,6 +1236,7 @@ public final class LoanNames {
         private int risen;
         private int spoilt;
         private int uneven;
+        private int below;
 
         Ledger(int[] familyOf) {
             this.familyOf = familyOf;
@@ -1298,14 +1306,18 @@ public final class LoanNames {
                 return NONE;
             }
             take(bundle);
-            Arrays.fill(lendsTo, EVERY_FAMILY);
+            Arrays.fill(lendsTo, 0);
+            for (int i = 0; i < presentMany; i++) {
+                lendsTo[present[i]] = EVERY_FAMILY;
+            }
             // CODES that differ only in bits on which no entry hangs weigh the same.
             int many = 1 << Integer.bitCount(bitsThatTell);
             int code = 0;
             for (int i = 0; i < many; i++) {
                 weigh(code);
                 int left = 0;
-                for (int l = 0; l < FAMILIES; l++) {
+                for (int j = 0; j < presentMany; j++) {
+                    int l = present[j];
                     lendsTo[l] &= borrowersOf(l);
                     left |= lendsTo[l];
                 }
@@ -1326,19 +1338,23 @@ public final class LoanNames {
         void take(Bundle bundle) {
             entries = 0;
             bitsThatTell = 0;
+            int told = 0;
             Arrays.fill(head, 0);
             for (int i = 0; i < MOST; i++) {
                 int earliest = earliestHead(bundle);
                 if (earliest == NONE) {
-                    return;
-                }
-                int before = 0;
-                for (int j = 0; j < earliest; j++) {
-                    before += bundle.deals[j].choices;
+                    break;
                 }
                 Deal deal = bundle.deals[earliest];
-                putEntry(deal, deal.byDay[head[earliest]], before);
+                told |= putEntry(deal, deal.byDay[head[earliest]], bundle.choicesBefore(earliest));
                 head[earliest]++;
+            }
+            presentMany = 0;
+            for (int family = 0; family < FAMILIES; family++) {
+                if ((told >> family & 1) == 1) {
+                    present[presentMany] = family;
+                    presentMany++;
+                }
             }
         }
 
@@ -1358,12 +1374,13 @@ public final class LoanNames {
             return earliest;
         }
 
-        private void putEntry(Deal deal, int k, int before) {
+        /** Bits of the FAMILIES that it tells of. */
+        private int putEntry(Deal deal, int k, int before) {
             int from = k * ROW_WIDTH;
             int giver = familyOf[deal.row[from + ROW_GIVER]];
             int taker = familyOf[deal.row[from + ROW_TAKER]];
             if (giver == taker || deal.much[k] == 0 || entries >= MOST) {
-                return;
+                return 0;
             }
             int at = entries * ROW_WIDTH;
             entry[at + ROW_DAY] = deal.row[from + ROW_DAY];
@@ -1375,6 +1392,7 @@ public final class LoanNames {
             bitsThatTell |= entry[at + ROW_MASK];
             much[entries] = deal.much[k];
             entries++;
+            return 1 << giver | 1 << taker;
         }
 
         private static int bitsBehind(int bits, int before) {
@@ -1415,14 +1433,14 @@ public final class LoanNames {
 
         private void endDay(int day) {
             int up = 0;
-            for (int family = 0; family < FAMILIES; family++) {
-                if (today[family] > 0) {
-                    up |= 1 << family;
+            for (int i = 0; i < presentMany; i++) {
+                if (today[present[i]] > 0) {
+                    up |= 1 << present[i];
                 }
             }
-            for (int family = 0; family < FAMILIES; family++) {
-                if (today[family] != 0) {
-                    book(family, day, up);
+            for (int i = 0; i < presentMany; i++) {
+                if (today[present[i]] != 0) {
+                    book(present[i], day, up);
                 }
             }
         }
@@ -1451,28 +1469,26 @@ public final class LoanNames {
 
         private void findUneven() {
             uneven = 0;
-            for (int family = 0; family < FAMILIES; family++) {
+            below = 0;
+            for (int i = 0; i < presentMany; i++) {
+                int family = present[i];
                 for (int thing = COIN + 1; thing < THINGS; thing++) {
                     if (totals[family * THINGS + thing] != 0) {
                         uneven |= 1 << family;
                     }
+                }
+                if (held[family] < 0) {
+                    below |= 1 << family;
                 }
             }
         }
 
         /** Bits of the FAMILIES to which l LENDS by the CODE weighed last. */
         int borrowersOf(int l) {
-            int bit = 1 << l;
-            if (held[l] <= 0 || ((spoilt | uneven) & bit) != 0) {
+            if (held[l] <= 0 || ((spoilt | uneven) >> l & 1) == 1) {
                 return 0;
             }
-            int borrowers = 0;
-            for (int b = 0; b < FAMILIES; b++) {
-                if (held[b] < 0) {
-                    borrowers |= 1 << b;
-                }
-            }
-            return borrowers & paidAtFirst[l] & ~uneven;
+            return below & paidAtFirst[l] & ~uneven;
         }
     }
 
@@ -1885,9 +1901,9 @@ public final class LoanNames {
             boolean below = false;
             for (int family = 0; family < FAMILIES; family++) {
                 int at = base + family * THINGS;
-                boolean even = true;
-                for (int thing = COIN + 1; thing < THINGS; thing++) {
-                    even &= sums[at + thing] == 0;
+                boolean even = sums[at + COIN] != 0;
+                for (int thing = COIN + 1; thing < THINGS && even; thing++) {
+                    even = sums[at + thing] == 0;
                 }
                 above |= even && sums[at + COIN] > 0;
                 below |= even && sums[at + COIN] < 0;

@@ -183,6 +183,15 @@ public final class BundlesTest {
         lendsBy(OUT + "," + BACK + ",pass a c coin 1 at 9", 1);
         lendsBy("if rain {" + OUT + "," + BACK + "} else {" + BACK + "}", 1);
         lendsBy("choice c {" + OUT + "," + BACK + "} or {" + OUT + ",pass b a coin 11 at 399}", 2);
+        LoanNames x = Check.bundled(OUT + ",choice b {pass b a coin 6 at 9} or {pass b a coin 5 at 9}",
+                "choice b {pass b a coin 6 at 9} or {pass b a coin 5 at 9}",
+                "choice b {pass b a coin 1 at 9}", "choice c {gift c d coin 1 at 0}",
+                "choice d {gift d e coin 1 at 0} or {pass b a coin 1 at 9}");
+        due("CHOICES of five DEALS, each by itself", x.lends(0, 1), 30);
+        due("no LOAN by just two of them", x.loan(), -1);
+        x.add(Check.deal(x, "if rain {pass b a coin 1 at 9} else {pass b a coin 2 at 9}"));
+        due("a LOAN by all", x.loan(), 1);
+        due("its step", x.step(), 1);
     }
 
     private static void priceIs(LoanNames x, long... want) {
@@ -205,6 +214,17 @@ public final class BundlesTest {
         // By none that LENDS but two of three.
         priceIs(Check.bundled("if rain {" + OUT + "," + BACK + "},if war {" + OUT + ",pass b a coin 12 at 6}"),
                 1, 20, 1, 5);
+        // 1 by 2, 2 by 5, 1 by 2, 3 by 5, in any order.
+        String[] shares = {"pass a b coin 2 at 0,pass b a coin 3 at 1", "pass a b coin 5 at 0,pass b a coin 7 at 1",
+            "pass a b coin 4 at 0,pass b a coin 6 at 1", "pass a b coin 5 at 0,pass b a coin 8 at 1"};
+        for (int turn = 0; turn < 4; turn++) {
+            priceIs(Check.bundled("if rain {if war {" + shares[turn] + "} else {" + shares[(turn + 1) % 4]
+                    + "}} else {if war {" + shares[(turn + 2) % 4] + "} else {" + shares[(turn + 3) % 4] + "}}"),
+                    2, 5, 3, 5);
+        }
+        priceIs(Check.bundled("if rain {" + shares[0] + "} else {" + shares[1] + "}"), 2, 5, 1, 2);
+        priceIs(Check.bundled("if rain {" + shares[1] + "} else {" + shares[0] + "}"), 2, 5, 1, 2);
+        priceIs(Check.bundled("if rain {" + shares[0] + "} else {" + shares[2] + "}"), 1, 2, 1, 2);
         LoanNames y = Check.bundled(OUT, "choice b {" + BACK + "} or {times 2 {" + BACK + "}}");
         priceIs(y, 1, 20, 7, 20);
         y.clear();

@@ -151,6 +151,15 @@ public final class DealsTest {
         same(P, "after 1 {pass a b coin 2 at 0}", -1);
         same("pass a b coin 3 at 1,pass b a coin 1 at 1", P, 0);
         same("times 0 {" + P + "}", "pass c d grain 0 at 3", -1);
+        same("pass b c coin 2 at 1", "pass a c coin 2 at 2", 0);
+        same("pass a c coin 2 at 1", "pass a b mule 2 at 1", 0);
+        same("pass a c coin 2 at 1", "pass b c coin 2 at 0", 0);
+        StringBuilder hires = new StringBuilder("hire a b mule 1 for 1 at 0 back 20");
+        for (int i = 1; i < 12; i++) {
+            hires.append(",hire a b mule 1 for 1 at ").append(i).append(" back ").append(i + 20);
+        }
+        same(hires.toString(), "after 40 {" + hires + "}", 0);
+        same(hires.toString(), "after 0 {" + hires + "}", -1);
         same("sale a b mule 3 for 4 at 5 paid 6", "gift a b mule 3 at 5,pass b a coin 4 at 6", -1);
         same("hire a b mule 3 for 4 at 5 back 6", "gift a b mule 3 at 5,gift b a mule 3 at 6,pass b a coin 4 at 6", -1);
         same("sale a b mule 3 for 4 at 5", "sale b a coin 4 for 0 at 5,pass a b mule 3 at 5", -1);

@@ -65,6 +65,8 @@ public final class SlyTest {
         slyIs(y, 1, 2, 4);
         LoanNames z = offered("gift c d cloth 1 at 0", CHEAP, DEAR, CHEAP);
         slyIs(z, 2, 2, 6);
+        LoanNames nested = offered(DEAR, "sale c d mule 1 for 12 at 0 paid 9", "sale d c mule 1 for 10 at 0", CHEAP);
+        slyIs(nested, 2, 2, 6);
     }
 
     private static void slyBySize() {

@@ -155,7 +155,11 @@ public final class TextsToldTest {
         fault("Pass a b coin 1 at 1", 0);
         fault("passa b coin 1 at 1", 0);
         fault("pass\ta b coin 1 at 1", 4);
+        fault("passz a b coin 1 at 1", 0);
+        fault("pass a bz coin 1 at 1", 7);
         fault("pass ab coin 1 at 1", 5);
+        fault("pass coin 1 at 1", 5);
+        fault("pass a coin 1 at 1", 7);
         fault("pass a bcoin 1 at 1", 7);
         fault("pass a b coin x at 1", 14);
         fault("pass a b coin -1 at 1", 14);
