@@ -8,6 +8,7 @@ public final class LawsTest {
         ties();
         within();
         breaches();
+        fullBundle();
         words();
         CHECK.end();
     }
@@ -112,6 +113,15 @@ public final class LawsTest {
         Check.law(x, "bar any;");
         x.clear();
         due("no BUNDLE", x.breach(0), -1);
+    }
+
+    /** Six DEALS of twelve LEAVES each are as many as there can be. */
+    private static void fullBundle() {
+        String twelve = Check.repeat("gift a b mule 1 at 3", 12, ",");
+        String last = Check.repeat("gift a b mule 1 at 3", 11, ",") + ",hire a b mule 1 for 1 at 3 back 4";
+        bars("bar any of coin;bar hire then any;", -1, -1, twelve, twelve, twelve, twelve, twelve, last);
+        bars("bar gift then hire;", 0, 71, twelve, twelve, twelve, twelve, twelve, last);
+        bars("bar hire;", 71, -1, twelve, twelve, twelve, twelve, twelve, last);
     }
 
     private static void words() {
