@@ -145,36 +145,20 @@ public final class LoanNames {
     }
 
     public int law(int n) {
-        int refusal = refusalOf(n, lawsTold, MOST_LAWS);
-        if (refusal != 0) {
-            return refusal;
-        }
-        if (laws[lawsTold] == null) {
-            laws[lawsTold] = new Rules();
-        }
-        tape.open(n);
-        boolean well = laws[lawsTold].readRules(tape, 0, LAW_STATEMENTS);
-        if (well) {
+        int number = tellRules(n, laws, lawsTold, 0, LAW_STATEMENTS);
+        if (number >= 0) {
             lawsTold++;
             search.forget();
         }
-        return closeText(well, lawsTold - 1);
+        return number;
     }
 
     public int word(int n) {
-        int refusal = refusalOf(n, wordsTold, MOST_WORDS);
-        if (refusal != 0) {
-            return refusal;
-        }
-        if (words[wordsTold] == null) {
-            words[wordsTold] = new Rules();
-        }
-        tape.open(n);
-        boolean well = words[wordsTold].readRules(tape, 1, WORD_STATEMENTS);
-        if (well) {
+        int number = tellRules(n, words, wordsTold, 1, WORD_STATEMENTS);
+        if (number >= 0) {
             wordsTold++;
         }
-        return closeText(well, wordsTold - 1);
+        return number;
     }
 
     public int fault() {
@@ -458,6 +442,18 @@ public final class LoanNames {
             return REFUSED;
         }
         return there >= most ? FULL : 0;
+    }
+
+    private int tellRules(int n, Rules[] texts, int told, int fewest, int most) {
+        int refusal = refusalOf(n, told, texts.length);
+        if (refusal != 0) {
+            return refusal;
+        }
+        if (texts[told] == null) {
+            texts[told] = new Rules();
+        }
+        tape.open(n);
+        return closeText(texts[told].readRules(tape, fewest, most), told);
     }
 
     private int closeText(boolean well, int number) {
