@@ -900,18 +900,7 @@ public final class LoanNames {
                 return false;
             }
             into.events |= 1 << event;
-            int start = shape.begin(Shape.IF_MARK, event);
-            if (!readBranch(open, event, 1)) {
-                return false;
-            }
-            shape.turn(start);
-            boolean well = true;
-            if (tape.isWord("else ")) {
-                tape.advance();
-                well = readBranch(open, event, 0);
-            }
-            shape.endTwo(start);
-            return well;
+            return readBranches(open, shape.begin(Shape.IF_MARK, event), event, 1, "else ");
         }
 
         private boolean readChoice(int open) {
@@ -925,15 +914,19 @@ public final class LoanNames {
             if (hand == NONE) {
                 return false;
             }
-            int start = shape.begin(Shape.CHOICE_MARK, hand);
-            if (!readBranch(open, bit, 0)) {
+            return readBranches(open, shape.begin(Shape.CHOICE_MARK, hand), bit, 0, "or ");
+        }
+
+        /** One or two blocks, the first for the bit as wanted, the second for the other. */
+        private boolean readBranches(int open, int start, int bit, int wanted, String between) {
+            if (!readBranch(open, bit, wanted)) {
                 return false;
             }
             shape.turn(start);
             boolean well = true;
-            if (tape.isWord("or ")) {
+            if (tape.isWord(between)) {
                 tape.advance();
-                well = readBranch(open, bit, 1);
+                well = readBranch(open, bit, 1 - wanted);
             }
             shape.endTwo(start);
             return well;
