@@ -295,8 +295,13 @@ final class PromisesOfBundles {
         s.due("no second", x.breach(2), -1);
         Check.law(x, "bar gift of mule;");
         s.due("by its place among all", x.breach(1), 2);
+        LoanNames two = s.bundled("gift a b mule 1 at 3,gift a b mule 1 at 4");
+        Check.law(two, "bar any;");
+        Check.law(two, "bar any then any;");
+        s.due("second", two.breach(2), 1);
         s.of("NONE: none, none such.");
         s.each("what", x::breach, -1, -1, 3, 4);
+        s.each("what", two::breach, -1, -1, 3, 4);
         Check.law(x, "bar sale;");
         for (int what = 0; what < 3; what++) {
             s.due("none", x.breach(what), -1);

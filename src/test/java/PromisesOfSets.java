@@ -73,6 +73,29 @@ final class PromisesOfSets {
         s.due("within a FAMILY", two.sly(2, 0), 0);
         two.family(1, 1);
         s.due("and back", two.sly(2, 0), 1);
+        LoanNames even = s.offered(LOAN + ",gift a c mule 1 at 0");
+        // Less and less is over all the same by these FAMILIES, or more and more.
+        for (int round = 0; round < 3; round++) {
+            s.due("a's mule is gone", even.sly(1, 0), 0);
+            even.family(2, 0);
+            s.due("a's FAMILY has it", even.sly(1, 0), 1);
+            even.family(2, 2);
+        }
+        LoanNames days = s.offered("pass a b coin 10 at 5,pass b a coin 12 at 9,pass c d coin 1 at 4,pass d c coin 1 at 10");
+        for (int round = 0; round < 3; round++) {
+            s.due("a's first DAY is b's", days.sly(1, 0), 1);
+            s.due("the set", days.sly(1, 1), 1);
+            days.family(2, 0);
+            s.due("a's FAMILY gave to d ahead of it", days.sly(1, 0), 0);
+            s.due("no set", days.sly(1, 1), -1);
+            days.family(2, 2);
+        }
+        LoanNames codes = s.offered("if rain {" + LOAN + "}", "if rain {times 0 {" + OUT + "}} else {" + LOAN + "}", LOAN + ",if rain {"
+            + "if war {gift a c mule 1 at 0}}", LOAN + ",choice a {choice b {" + BACK + "} or {pass b a coin 1 at 1}} or {choice b {"
+            + BACK + "}}");
+        s.due("by each CODE", codes.sly(1, 1), 8);
+        s.due("alone", codes.sly(1, 0), 1);
+        s.due("two together", codes.sly(2, 0), 4);
         Check.law(two, "bar pass then pass;");
         s.due("by a LAW", two.sly(2, 0), 0);
         Check.law(two, "");
@@ -128,6 +151,16 @@ final class PromisesOfSets {
         s.due("its first DEAL", x.innocent(0, 10), 1);
         s.due("its second", x.innocent(0, 11), 0);
         s.due("no LOAN, not LOOKED at", x.innocent(1, 1), -1);
+        LoanNames y = s.told("pass b a coin 1 at 0,pass a b coin 2 at 1", "pass d c coin 1 at 0,pass c d coin 2 at 1", OUT);
+        for (int deal = 0; deal < 3; deal++) {
+            y.add(deal);
+            y.honest();
+            y.clear();
+        }
+        int[] loans = {10, 32, -1};
+        for (int honest : new int[] {0, 1, 2, 0, 2, 1, 0, 0, 1, 1}) {
+            s.due("LOAN of " + honest, y.innocent(honest, 1), loans[honest]);
+        }
         s.due("the 6th DEAL", x.innocent(1, 15), 5);
         Check.law(x, "bar pass then pass;");
         s.due("not let", x.innocent(0, 0), 0);
@@ -234,6 +267,13 @@ final class PromisesOfSets {
         s.due("the BUNDLE is another thing", x.count(4), 0);
         s.of("NONE: none, none such.");
         s.due("apart", x.group(1, 0), -1);
+        for (int round = 0; round < 4; round++) {
+            s.due("of one GROUP", x.group(2, 0), 43);
+            s.due("of another", x.group(2, 1), -1);
+            s.due("apart", x.group(1, 2), -1);
+        }
+        LoanNames now = s.told("gift a b mule 0 at 0," + OUT, "gift a b mule 0 at 0," + BACK);
+        s.due("by 0", now.group(0, 1), 1);
         s.due("of another GROUP", x.group(2, 1), -1);
         x.family(4, 3);
         s.due("within a FAMILY", x.group(2, 0), -1);

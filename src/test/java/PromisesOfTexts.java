@@ -141,6 +141,28 @@ final class PromisesOfTexts {
         s.due("of no bytes", x.deal(0, 0), -1);
         s.due("its place", x.fault(), 0);
         s.due("the next number", Check.deal(x, GIFT), 2);
+        // What was read of a text with a FAULT isn't there in the next one.
+        String open = "after 3 {times 0 {if war {choice a {choice b {choice c {" + Check.repeat(GIFT, 12, ",");
+        LoanNames y = new LoanNames();
+        for (int round = 0; round < 2; round++) {
+            s.due("none", Check.deal(y, open + ";"), -1);
+            s.due("its place", y.fault(), open.length());
+            s.due("well", Check.deal(y, "hire c d coin 1 for 2 at 5 back 6"), round);
+            int[] want = {1, 0, 0, 0, 4 + 8, 1};
+            for (int what = 0; what < 6; what++) {
+                s.due("size, what " + what, y.size(round, what), want[what]);
+            }
+            s.due("at", y.leaf(round, 0, 6), 5);
+            s.due("STEPS", y.plain(round, 0), 0);
+            s.due("LEAVES left", y.plain(round, 1), 1);
+            y.clear();
+            y.add(round);
+            s.rows(y, 0, 3);
+            s.row(y, 31, 2, 6, 3, 2, 0, 2);
+            s.due("lends", y.lends(2, 3), 1);
+            s.due("LOAN as HONEST", y.innocent(y.honest(), 1), 23);
+        }
+        s.due("the SAME", y.same(0, 1), -1);
         s.of("-2, doing nothing: n is below 0 or more than there are, no DAY;");
         Check.deal(x, "gift a");
         Check.feed(x, GIFT);
@@ -177,6 +199,13 @@ final class PromisesOfTexts {
         s.due("its place", x.fault(), 16);
         s.due("laws", x.count(1), 1);
         s.due("empty then, too", x.count(9), 0);
+        // What was read of a text with a FAULT isn't there in the next one.
+        LoanNames y = s.bundled("sale a b mule 1 for 1 at 0", "gift a b grain 1 at 9");
+        s.due("none", Check.law(y, "bar any of coin then any of coin back same more within 3;bar any;bar"), -1);
+        s.due("none in force", y.count(2), 0);
+        s.due("a LAW", Check.law(y, "bar any then any;"), 0);
+        s.due("one statement", y.count(2), 1);
+        s.due("without ties", y.breach(2), 1);
         Check.feed(x, "bar any;");
         String before = Sentences.state(x);
         s.each("n", x::law, -2, -1, 21, 600, 601);
@@ -208,6 +237,13 @@ final class PromisesOfTexts {
         s.due("its place", x.fault(), 16);
         s.due("words", x.count(3), 1);
         s.due("empty then, too", x.count(9), 0);
+        LoanNames y = s.bundled("sale a b mule 1 for 1 at 0", "gift a b grain 1 at 9");
+        s.due("none", Check.word(y, "bar any of coin then any of coin back same more within 3;bar any;bar"), -1);
+        s.due("a WORD", Check.word(y, "bar any then any;"), 0);
+        s.due("without ties", y.bars(0), 1);
+        s.due("none", Check.word(y, "bar any;bar any;bar"), -1);
+        s.due("a WORD", Check.word(y, "bar hire;"), 1);
+        s.due("of one statement", y.bars(1), 0);
         Check.feed(x, "bar any;");
         String before = Sentences.state(x);
         s.each("n", x::word, -2, -1, 21, 600, 601);
@@ -328,16 +364,17 @@ final class PromisesOfTexts {
         s.under("Promise 10: plain");
         s.of("PLAIN: STEPS (what 0), LEAVES left (1).");
         LoanNames x = s.told("times 0 {after 0 {" + GIFT + "," + GIFT + "}},times 1 {" + GIFT + "}", GIFT + "," + GIFT,
-            "times 0 {" + GIFT + "}");
+            "times 0 {" + GIFT + "}", GIFT + "," + GIFT, GIFT);
         s.due("STEPS", x.plain(0, 0), 3);
         s.due("LEAVES left", x.plain(0, 1), 1);
         s.due("no STEPS", x.plain(1, 0), 0);
         s.due("all LEAVES", x.plain(1, 1), 2);
         s.due("no LEAVES", x.plain(2, 1), 0);
+        s.due("one LEAF behind two", x.plain(4, 1), 1);
         s.due("asking changes no DEAL", x.size(0, 0), 3);
         s.due("asked again", x.plain(0, 0), 3);
         s.of("NONE: none such.");
-        s.each("DEAL", deal -> x.plain(deal, 0), -1, -1, 3, 23, 24);
+        s.each("DEAL", deal -> x.plain(deal, 0), -1, -1, 5, 23, 24);
         s.each("what", what -> x.plain(0, what), -1, -1, 2, 3);
     }
 

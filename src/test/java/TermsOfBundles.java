@@ -64,6 +64,20 @@ final class TermsOfBundles {
             s.due("by them and all EVENTS", y.net(choice << 5 | 31, 1, 0, 0), choice);
         }
         s.due("none behind the last", y.net(64 << 5, 1, 0, 0), Sentences.NO_SUM);
+        // An EVENT is the same one to each DEAL, whatever CHOICES are told ahead of it.
+        String each = "choice a {pass a b coin 1 at 0} or {pass a b coin 0 at 0,pass a b coin 0 at 0},if dies {pass a b coin 2 at 0},"
+            + "if rain {pass a b coin 4 at 0},if war {pass a b coin 8 at 0},if dear {pass a b coin 16 at 0},if flood {pass a b coin 32 at 0}";
+        for (int chosen = 0; chosen < 8; chosen++) {
+            LoanNames z = s.bundled(each, each, each);
+            for (int come = 0; come < 32; come++) {
+                int code = chosen << 5 | come;
+                int rows = 3 * Integer.bitCount(come) + 3 + Integer.bitCount(chosen);
+                s.due("by " + code, z.net(code, 1, 0, 0), 3 * 2 * come + 3 - Integer.bitCount(chosen));
+                s.due("rows by " + code, z.passed(code, -1, 0), rows);
+                s.due("the last row by " + code, z.passed(code, rows - 1, 4), come > 0 ? 2 * Integer.highestOneBit(come)
+                    : 1 - (chosen >> 2));
+            }
+        }
         LoanNames full = s.bundled(three, three, three, three, three, three);
         s.due("as many CHOICES as can be", full.count(8), 18);
         s.due("by the last alone", full.net(1 << 22, 1, 0, 0), 4);
@@ -103,6 +117,26 @@ final class TermsOfBundles {
         LoanNames x = s.bundled("if dies {pass c d mule 1 at 0}", "if flood {" + BOTH + "}", "choice a {times 1 {"
             + OUT + "}} or {times 2 {" + BACK + "}}");
         s.due("by flood and the second part, dies or not", x.lends(0, 1), 2);
+        byWeights();
+    }
+
+    /** Each EVENT and CHOICE adds its own to what comes back, so that each CODE's sum is another one, 0 to 255. */
+    private void byWeights() {
+        String choice = "choice d {pass b a coin 0 at 9} or {pass b a coin ";
+        String[] deals = {"pass a b coin 300 at 5," + choice + "1 at 9},if dies {pass b a coin 2 at 9}",
+            choice + "4 at 9},if rain {pass b a coin 8 at 9}," + choice + "16 at 9}", "if war {pass b a coin 32 at 9},"
+            + "if dear {pass b a coin 64 at 9},if flood {pass b a coin 128 at 9}", ""};
+        for (int less : new int[] {-1, 0, 1, 126, 127, 128, 253, 254, 255}) {
+            deals[3] = "pass b a coin " + (300 - less) + " at 9";
+            LoanNames x = s.bundled(deals);
+            s.due("sums above " + less, x.lends(0, 1), 255 - less);
+            s.due("the least price, upper", x.price(0, 1, 0), less < 255 ? 1 : -1);
+            s.due("the least price, lower", x.price(0, 1, 1), less < 255 ? 1200 : -1);
+            s.due("the greatest price", 1200 * x.price(0, 1, 2), less < 255 ? (255 - less) * x.price(0, 1, 3) : -1200);
+            s.due("a LOAN", x.loan(), less < 0 ? 1 : -1);
+            s.due("its STEP", x.step(), less < 0 ? 1 : -1);
+            s.due("a LOAN as HONEST", x.innocent(x.honest(), 1), less < 0 ? 1 : -1);
+        }
     }
 
     private void nets() {
@@ -170,6 +204,20 @@ final class TermsOfBundles {
         lends(BOTH + ",times 0 {gift a c mule 1 at 0}", 1);
         lends(BOTH + ",gift a c coin 1 at 9", 1);
         lends(BOTH + ",hire b a house 1 for 0 at 0 back 399", 1);
+        // By each CODE for itself, whatever it was by the one ahead of it.
+        lends(BOTH + ",if rain {gift a c mule 1 at 0}", 1);
+        lends(BOTH + ",if rain {gift a b coin 0 at 0} else {gift a c mule 1 at 0}", 1);
+        lends(BOTH + ",if rain {gift a c mule 1 at 0} else {gift c a mule 1 at 0}", 0);
+        lends(BOTH + ",if rain {gift a c mule 1 at 0},if war {gift c a mule 1 at 0}", 2);
+        String hires = Check.repeat("hire a b coin 1 for 1 at 0 back 1", 12, ",");
+        LoanNames full = s.bundled(hires, hires, hires, hires, hires, hires);
+        s.due("as many rows as can be", full.lends(0, 1), 1);
+        s.due("their price", full.price(0, 1, 1), 1);
+        String others = Check.repeat("hire c d house 1 for 1 at 0 back 1", 11, ",") + ",gift ";
+        LoanNames last = s.bundled(hires, hires, hires, hires, hires, others + "c d house 1 at 9");
+        s.due("all but the last", last.lends(0, 1), 1);
+        last = s.bundled(hires, hires, hires, hires, hires, others + "a d house 1 at 9");
+        s.due("the last row counts", last.lends(0, 1), 0);
     }
 
     private void lendsByDays() {
@@ -191,6 +239,7 @@ final class TermsOfBundles {
         lends("pass b c coin 10 at 5," + BOTH, 0);
         lends("pass b c coin 11 at 5," + BOTH, 0);
         lends("pass b c coin 1 at 4," + BOTH, 1);
+        lends("pass c a coin 1 at 0,pass c b coin 1 at 0,pass b c coin 2 at 1", 0);
         lends("pass c b coin 1 at 5,pass a d coin 1 at 5,pass d a coin 3 at 6,pass b d coin 3 at 6", 1);
         s.of("on no DAY behind one with L's NET above 0 it's below 0;");
         lends(OUT + ",pass a b coin 1 at 7," + BACK, 1);
@@ -218,6 +267,10 @@ final class TermsOfBundles {
         lends(BOTH + ",pass c b coin 1 at 9", 1);
         lends(BOTH + ",pass c b coin 2 at 9", 0);
         lends(BOTH + ",pass c b coin 3 at 399", 0);
+        lends(BOTH + ",if rain {pass c b coin 2 at 9}", 1);
+        lends(BOTH + ",if rain {pass c b coin 0 at 9} else {pass c b coin 2 at 9}", 1);
+        lends(BOTH + ",if rain {pass a c coin 2 at 9}", 1);
+        lends(BOTH + ",if rain {pass a c coin 0 at 9} else {pass a c coin 2 at 9}", 1);
         lends(OUT + ",pass c a coin 12 at 9", 0);
         lends(OUT + ",pass c a coin 12 at 9,pass b d coin 10 at 9", 0);
         lends(OUT + ",pass c a coin 12 at 9,pass b d coin 11 at 9", 1);
@@ -270,6 +323,7 @@ final class TermsOfBundles {
         LoanNames x = s.bundled(deals);
         s.due("loan of " + String.join(" / ", deals), x.loan(), want);
         s.due("whether it has a step", x.step() > 0, want >= 0);
+        s.due("as HONEST", x.innocent(x.honest(), 1), want);
     }
 
     private void loans() {
@@ -296,6 +350,18 @@ final class TermsOfBundles {
         s.due("a LOAN by them", x.loan(), 1);
         x.add(Check.deal(x, choices(1)));
         s.due("not LOOKED at", x.loan(), -1);
+        LoanNames y = s.told(OUT, BACK, "pass d c coin 1 at 0,pass c d coin 2 at 1", "pass a b coin 2 at 9");
+        int[] loans = {-1, 1, 1, -1};
+        for (int deal : new int[] {0, 1, 2, 3}) {
+            y.add(deal);
+            s.due("with one more", y.loan(), deal < 3 ? loans[deal] : 32);
+            s.due("as HONEST", y.innocent(y.honest(), 1), deal < 3 ? loans[deal] : 32);
+        }
+        y.clear();
+        s.due("none of it", y.loan(), -1);
+        for (int honest : new int[] {1, 3, 0, 3, 1, 0}) {
+            s.due("each for itself", y.innocent(honest, 1), honest == 0 ? -1 : honest == 1 ? 1 : 32);
+        }
     }
 
     private void steps() {
@@ -341,6 +407,9 @@ final class TermsOfBundles {
         s.due("of b and a", x.cost(1, 0, 0), 3 + 6 + 4 + 2);
         s.due("of c and d", x.cost(2, 3, 0), 4 + 2);
         s.due("nobody has it", s.well(BOTH).cost(0, 1, 0), 0);
+        LoanNames events = s.well("if dies {pass a c coin 5 at 0} else {pass a c coin 1 at 0},if flood {pass a d coin 3 at 0}");
+        s.due("by CODE 0 alone", events.cost(0, 1, 0), 1);
+        s.due("who has it", events.cost(0, 1, 1), 2);
         s.due("L has it", s.well(BOTH).cost(0, 2, 0), 0);
         s.due("another has it", s.well(BOTH).cost(1, 2, 0), 2);
         s.due("coin alone", s.well("pass a c mule 9 at 0").cost(0, 1, 0), 0);

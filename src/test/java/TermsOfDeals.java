@@ -186,6 +186,8 @@ final class TermsOfDeals {
         plain("if rain {if war {" + P + "} else {" + Q + "}} else {if war {" + Q + "} else {" + P + "}}", 0, 4);
         plain("if rain {if war {" + P + "," + Q + "}} else {if war {" + P + "} else {" + Q + "}}", 0, 4);
         plain("if rain {after 2 {" + P + "}," + Q + "} else {after 2 {" + P + "," + Q + "}}", 0, 4);
+        plain("if rain {if war {" + P + "} else {" + Q + "}," + Q + "} else {if war {" + P + "} else {" + Q + "," + Q + "}}", 0, 6);
+        plain("if rain {after 3 {times 2 {" + P + "}," + Q + "}} else {after 3 {times 2 {" + P + "," + Q + "}}}", 0, 4);
         plain("if rain {if rain {" + P + "} else {" + P + "}} else {if war {" + P + "} else {" + P + "}}", 3, 1);
     }
 
@@ -262,6 +264,7 @@ final class TermsOfDeals {
             "pass a c coin 2 at 1,pass c b coin 2 at 1", "times 0 {" + P + "}"}) {
             same(P, other, 0);
         }
+        sameByEach();
         s.of("else the least CODE by which they part.");
         same(P, "if dies {" + Q + "} else {" + P + "}", 1);
         same("if dies {" + P + "}", "if flood {" + P + "}", 1);
@@ -271,5 +274,33 @@ final class TermsOfDeals {
         same("choice a {" + P + "} or {" + Q + "}", "choice a {" + Q + "} or {" + P + "}", 0);
         same("times 0 {" + P + "}", "choice a {times 0 {" + P + "}} or {choice b {times 0 {" + P + "}} or {choice c {times 0 {"
             + P + "}} or {if flood {if dies {" + P + "}}}}}", 128 + 64 + 32 + 17);
+    }
+
+    /** No two of 24 DEALS are the SAME that each pass the same by another DAY, HANDS or THING. */
+    private void sameByEach() {
+        String[] hands = {"a b", "a c", "b a", "b c", "h a", "h g"};
+        String[] deals = new String[24];
+        for (int i = 0; i < 24; i++) {
+            deals[i] = "pass " + hands[i % 6] + (i % 12 < 6 ? " coin" : " mule") + " 2 at " + i / 12;
+        }
+        for (int one = 0; one < 24; one++) {
+            LoanNames x = s.told(deals);
+            for (int other = 0; other < 24; other++) {
+                s.due("same " + deals[one] + " / " + deals[other], x.same(one, other), one == other ? -1 : 0);
+            }
+        }
+        // As many rows as can be, each by a DAY of its own: no two of these share one.
+        StringBuilder first = new StringBuilder();
+        StringBuilder second = new StringBuilder();
+        for (int i = 0; i < 12; i++) {
+            first.append(i == 0 ? "" : ",").append("hire a b mule 1 for 1 at ").append(i).append(" back ").append(20 + i);
+            second.append(i == 0 ? "" : ",").append("hire b a work 1 for 1 at ").append(100 + i).append(" back ").append(120 + i);
+        }
+        LoanNames full = s.told(first.toString(), second.toString(), first.toString());
+        for (int round = 0; round < 20; round++) {
+            s.due("full and others", full.same(0, 1), 0);
+            s.due("full and others", full.same(1, 2), 0);
+            s.due("full and the SAME", full.same(0, 2), -1);
+        }
     }
 }
