@@ -2,8 +2,10 @@ import java.nio.charset.StandardCharsets;
 
 /** Long runs of calls, right and wrong ones, held against the Oracle. */
 public final class OracleTest {
-    private static final int RUNS = 400;
-    private static final int CALLS = 330;
+    private static final int RUNS = 500;
+    // An object is promised nothing behind its 512th call; telling a DEAL and asking of it are some forty.
+    private static final int CALLS_TO_TELL = 300;
+    private static final int CALLS = 460;
 
     private final Check check;
     private final Texts texts;
@@ -11,6 +13,7 @@ public final class OracleTest {
     private final LoanNames x = new LoanNames();
     private final Oracle o = new Oracle();
     private final int mostOffered;
+    private int calls;
     private String latest = "gift a b coin 1 at 1";
 
     private OracleTest(Check check, int run, long seed) {
@@ -38,10 +41,10 @@ public final class OracleTest {
 
     private void go() {
         int mostDeals = 3 + texts.below(texts.oneIn(5) ? 24 : 6);
-        for (int i = 0; i < mostDeals; i++) {
+        for (int i = 0; i < mostDeals && calls < CALLS_TO_TELL; i++) {
             tellDeal();
         }
-        for (int i = 0; i < CALLS && check.wrong() == 0; i++) {
+        for (int i = 0; i < CALLS && calls < CALLS && check.wrong() == 0; i++) {
             call();
         }
     }
@@ -89,6 +92,7 @@ public final class OracleTest {
     }
 
     private void due(String what, long got, long want) {
+        calls++;
         check.due("run " + run + ": " + what, got, want);
     }
 

@@ -323,7 +323,10 @@ final class PromisesOfSets {
     /** As many of all as there can be. */
     private LoanNames full() {
         LoanNames x = new LoanNames();
-        for (int deal = 0; deal < 24; deal++) {
+        for (int deal = 0; deal < 18; deal++) {
+            Check.deal(x, OUT);
+        }
+        for (int deal = 18; deal < 24; deal++) {
             Check.deal(x, "choice a {choice b {choice c {" + Check.repeat("gift a b mule 1 at 1", 12, ",") + "}}}");
         }
         for (int law = 0; law < 6; law++) {

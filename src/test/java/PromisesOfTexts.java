@@ -142,9 +142,9 @@ final class PromisesOfTexts {
         s.due("its place", x.fault(), 0);
         s.due("the next number", Check.deal(x, GIFT), 2);
         // What was read of a text with a FAULT isn't there in the next one.
-        String open = "after 3 {times 0 {if war {choice a {choice b {choice c {" + Check.repeat(GIFT, 12, ",");
         LoanNames y = new LoanNames();
         for (int round = 0; round < 2; round++) {
+            String open = "after 3 {times " + 9 * round + " {if war {choice a {choice b {choice c {" + Check.repeat(GIFT, 12, ",");
             s.due("none", Check.deal(y, open + ";"), -1);
             s.due("its place", y.fault(), open.length());
             s.due("well", Check.deal(y, "hire c d coin 1 for 2 at 5 back 6"), round);

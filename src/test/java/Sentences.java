@@ -22,13 +22,15 @@ final class Sentences {
         "## Promise \\d+: [A-Za-z ]*?(?= `)|`[^`]*`:|`NONE = -1`|```text|```|==== \\d\\.|## Terms");
 
     private final Check check = new Check();
+    private final boolean isThere;
     private final String document;
     private final boolean[] quoted;
     private int from;
     private String now = "";
 
     Sentences() throws IOException {
-        document = Files.readString(DOCUMENT).replaceAll("\\s+", " ");
+        isThere = Files.exists(DOCUMENT);
+        document = isThere ? Files.readString(DOCUMENT).replaceAll("\\s+", " ") : "";
         quoted = new boolean[document.length()];
     }
 
@@ -40,6 +42,9 @@ final class Sentences {
     /** The sentence, or part of one, that the answers from now on are held against. */
     void of(String quote) {
         now = quote;
+        if (!isThere) {
+            return;
+        }
         int place = find(quote, from);
         for (int i = place; i >= 0 && i < place + quote.length(); i++) {
             quoted[i] = true;
@@ -48,7 +53,7 @@ final class Sentences {
     }
 
     private int find(String text, int start) {
-        int place = document.indexOf(text, start);
+        int place = isThere ? document.indexOf(text, start) : 0;
         check.due("the document, for what stands there next: " + text, place >= 0, true);
         return place;
     }
@@ -166,6 +171,15 @@ final class Sentences {
     }
 
     void end() {
+        if (isThere) {
+            holdQuotes();
+        } else {
+            System.out.println(DOCUMENT + " isn't there: whether each sentence is quoted wasn't looked at");
+        }
+        check.end();
+    }
+
+    private void holdQuotes() {
         Matcher free = NO_SENTENCE.matcher(document);
         while (free.find()) {
             Arrays.fill(quoted, free.start(), free.end(), true);
@@ -182,6 +196,5 @@ final class Sentences {
                 start = -1;
             }
         }
-        check.end();
     }
 }

@@ -125,18 +125,23 @@ final class TermsOfBundles {
         String choice = "choice d {pass b a coin 0 at 9} or {pass b a coin ";
         String[] deals = {"pass a b coin 300 at 5," + choice + "1 at 9},if dies {pass b a coin 2 at 9}",
             choice + "4 at 9},if rain {pass b a coin 8 at 9}," + choice + "16 at 9}", "if war {pass b a coin 32 at 9},"
-            + "if dear {pass b a coin 64 at 9},if flood {pass b a coin 128 at 9}", ""};
+            + "if dear {pass b a coin 64 at 9},if flood {pass b a coin 128 at 9}"};
         for (int less : new int[] {-1, 0, 1, 126, 127, 128, 253, 254, 255}) {
-            deals[3] = "pass b a coin " + (300 - less) + " at 9";
-            LoanNames x = s.bundled(deals);
-            s.due("sums above " + less, x.lends(0, 1), 255 - less);
-            s.due("the least price, upper", x.price(0, 1, 0), less < 255 ? 1 : -1);
-            s.due("the least price, lower", x.price(0, 1, 1), less < 255 ? 1200 : -1);
-            s.due("the greatest price", 1200 * x.price(0, 1, 2), less < 255 ? (255 - less) * x.price(0, 1, 3) : -1200);
-            s.due("a LOAN", x.loan(), less < 0 ? 1 : -1);
-            s.due("its STEP", x.step(), less < 0 ? 1 : -1);
-            s.due("a LOAN as HONEST", x.innocent(x.honest(), 1), less < 0 ? 1 : -1);
+            byWeights(less, deals[0], deals[1], deals[2]);
+            byWeights(less, deals[2], deals[1], deals[0]);
+            byWeights(less, deals[1], deals[2], deals[0]);
         }
+    }
+
+    private void byWeights(int less, String... deals) {
+        LoanNames x = s.bundled(deals[0], deals[1], deals[2], "pass b a coin " + (300 - less) + " at 9");
+        s.due("sums above " + less, x.lends(0, 1), 255 - less);
+        s.due("the least price, upper", x.price(0, 1, 0), less < 255 ? 1 : -1);
+        s.due("the least price, lower", x.price(0, 1, 1), less < 255 ? 1200 : -1);
+        s.due("the greatest price", 1200 * x.price(0, 1, 2), less < 255 ? (255 - less) * x.price(0, 1, 3) : -1200);
+        s.due("a LOAN", x.loan(), less < 0 ? 1 : -1);
+        s.due("its STEP", x.step(), less < 0 ? 1 : -1);
+        s.due("a LOAN as HONEST", x.innocent(x.honest(), 1), less < 0 ? 1 : -1);
     }
 
     private void nets() {
@@ -162,8 +167,15 @@ final class TermsOfBundles {
         s.due("far below 0", much.net(0, 0, 0, -1), -24 * MUCH);
     }
 
+    /** By how many CODES a LENDS to b, and whether that makes a LOAN; then the same with a and b changed. */
     private void lends(String text, int want) {
-        s.due("lends by " + text, s.well(text).lends(0, 1), want);
+        LoanNames x = s.well(text);
+        s.due("lends by " + text, x.lends(0, 1), want);
+        s.due("LOAN by " + text, x.innocent(x.honest(), 1) == 1, want == x.codes());
+        String other = text.replaceAll("\\ba\\b", "_").replaceAll("\\bb\\b", "a").replace('_', 'b');
+        LoanNames y = s.well(other);
+        s.due("lends by " + other, y.lends(1, 0), want);
+        s.due("LOAN by " + other, y.innocent(y.honest(), 1) == 10, want == y.codes());
     }
 
     private void lendsAtAll() {
@@ -213,6 +225,9 @@ final class TermsOfBundles {
         LoanNames full = s.bundled(hires, hires, hires, hires, hires, hires);
         s.due("as many rows as can be", full.lends(0, 1), 1);
         s.due("their price", full.price(0, 1, 1), 1);
+        s.due("their NET", full.net(0, 0, 0, 1), 144);
+        s.due("parts from themselves", full.parts(full.honest()), -1);
+        s.due("LOAN as HONEST", full.innocent(0, 1), 1);
         String others = Check.repeat("hire c d house 1 for 1 at 0 back 1", 11, ",") + ",gift ";
         LoanNames last = s.bundled(hires, hires, hires, hires, hires, others + "c d house 1 at 9");
         s.due("all but the last", last.lends(0, 1), 1);
@@ -338,8 +353,15 @@ final class TermsOfBundles {
         loan(1, OUT, "choice b {" + BACK + "} or {pass b a coin 11 at 399}");
         loan(-1, BOTH, "if dies {if rain {if war {if dear {if flood {pass a b coin 2 at 9}}}}}");
         loan(1, BOTH, "if dies {if rain {if war {if dear {if flood {pass a b coin 1 at 9}}}}}");
+        loan(-1, BOTH, "if rain {pass a b coin 0 at 9} else {if war {pass a b coin 2 at 9}}");
+        loan(-1, BOTH, "if rain {if war {pass a b coin 0 at 9} else {pass a b coin 2 at 9}}");
+        loan(1, BOTH, "if rain {if war {pass a b coin 0 at 9} else {pass a b coin 1 at 9}}");
         loan(-1, "if rain {" + BOTH + "} else {pass c b coin 10 at 5,pass b c coin 12 at 9}");
         loan(-1, "if rain {" + BOTH + "} else {pass a c coin 10 at 5,pass c a coin 12 at 9}");
+        // By all eight FAMILIES.
+        String eight = "pass c d coin 1 at 0,pass e f coin 1 at 1,pass g h coin 1 at 2";
+        loan(1, BOTH + "," + eight);
+        loan(-1, OUT + "," + eight);
         loan(21, "pass d b coin 1 at 0,pass b d coin 2 at 1,pass c b coin 1 at 0,pass b c coin 2 at 1");
         loan(20, "pass c b coin 1 at 0,pass b c coin 2 at 1,pass c a coin 1 at 0,pass a c coin 2 at 1");
         loan(20, "pass d a coin 1 at 0,pass a d coin 2 at 1,pass c a coin 1 at 0,pass a c coin 2 at 1");

@@ -296,10 +296,11 @@ final class TermsOfDeals {
             first.append(i == 0 ? "" : ",").append("hire a b mule 1 for 1 at ").append(i).append(" back ").append(20 + i);
             second.append(i == 0 ? "" : ",").append("hire b a work 1 for 1 at ").append(100 + i).append(" back ").append(120 + i);
         }
-        LoanNames full = s.told(first.toString(), second.toString(), first.toString());
+        LoanNames full = s.told(first.toString(), second.toString(), first.toString(), "after 200{" + first + "}");
         for (int round = 0; round < 20; round++) {
             s.due("full and others", full.same(0, 1), 0);
-            s.due("full and others", full.same(1, 2), 0);
+            s.due("full and others", full.same(2, 1), 0);
+            s.due("full and others", full.same(3, 2), 0);
             s.due("full and the SAME", full.same(0, 2), -1);
         }
     }

@@ -13,6 +13,8 @@ final class TermsOfTexts {
     }
 
     void hold() {
+        s.under("What it is");
+        calls();
         s.under("Terms");
         names();
         parts();
@@ -21,6 +23,21 @@ final class TermsOfTexts {
         tokens();
         limits();
         faults();
+    }
+
+    private void calls() {
+        s.of("An object is used for at most 512 calls after it has been made;");
+        LoanNames x = new LoanNames();
+        x.feed(0x67696674, 0x20612062, 0x206d756c, 0x65203120, 0x61742031);
+        x.deal(20, 0);
+        x.offer(0);
+        for (int call = 4; call < 512; call += 4) {
+            s.due("call " + call, x.add(0), 1);
+            s.due("the next", x.net(0, 1, 1, 1), 1);
+            s.due("the next", x.honest(), call < 28 ? call / 4 - 1 : -1);
+            s.due("the next", x.clear(), 1);
+        }
+        s.due("the 512th", x.count(6), 6);
     }
 
     private void names() {
